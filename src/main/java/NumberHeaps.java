@@ -135,22 +135,16 @@ public final class NumberHeaps {
     // ---- heaps filled, differenced
 
     public int greedy(int k, int what) {
-        if (noText() || notZeroOrOne(what)) {
-            return refuse(NONE_SUCH);
-        }
-        if (noSuchHeaps(k)) {
-            return refuse(BAD_NUMBER);
+        if (refused(noText() || notZeroOrOne(what), noSuchHeaps(k))) {
+            return NONE;
         }
         filling.fillBySize(state, k);
         return answer(what == 0 ? filling.spread() : filling.greatest());
     }
 
     public int greedyOf(int k, int i) {
-        if (noNumber(i)) {
-            return refuse(NONE_SUCH);
-        }
-        if (noSuchHeaps(k)) {
-            return refuse(BAD_NUMBER);
+        if (refused(noNumber(i), noSuchHeaps(k))) {
+            return NONE;
         }
         filling.fillBySize(state, k);
         return answer(filling.heapOf[i]);
@@ -181,22 +175,16 @@ public final class NumberHeaps {
     }
 
     public int multi(int k) {
-        if (noText()) {
-            return refuse(NONE_SUCH);
-        }
-        if (noSuchHeaps(k)) {
-            return refuse(BAD_NUMBER);
+        if (refused(noText(), noSuchHeaps(k))) {
+            return NONE;
         }
         several.run(state, k);
         return answer(several.lastWidth());
     }
 
     public int multiOf(int k, int i) {
-        if (noNumber(i)) {
-            return refuse(NONE_SUCH);
-        }
-        if (noSuchHeaps(k)) {
-            return refuse(BAD_NUMBER);
+        if (refused(noNumber(i), noSuchHeaps(k))) {
+            return NONE;
         }
         several.run(state, k);
         return answer(several.heapOf(i));
@@ -241,11 +229,8 @@ public final class NumberHeaps {
     // ---- all rows
 
     public int bound(int k) {
-        if (noText()) {
-            return refuse(NONE_SUCH);
-        }
-        if (noSuchHeaps(k)) {
-            return refuse(BAD_NUMBER);
+        if (refused(noText(), noSuchHeaps(k))) {
+            return NONE;
         }
         int most = Math.max((state.total() + k - 1) / k, state.values[state.bySize[0]]);
         if (state.count > k) {
@@ -255,11 +240,8 @@ public final class NumberHeaps {
     }
 
     public int least(int k, int what) {
-        if (noText() || notZeroOrOne(what)) {
-            return refuse(NONE_SUCH);
-        }
-        if (noSuchHeaps(k)) {
-            return refuse(BAD_NUMBER);
+        if (refused(noText() || notZeroOrOne(what), noSuchHeaps(k))) {
+            return NONE;
         }
         Partings all = allRows(k);
         if (!all.findLeast(state, version)) {
@@ -269,11 +251,8 @@ public final class NumberHeaps {
     }
 
     public int leastOf(int k, int i) {
-        if (noNumber(i)) {
-            return refuse(NONE_SUCH);
-        }
-        if (noSuchHeaps(k)) {
-            return refuse(BAD_NUMBER);
+        if (refused(noNumber(i), noSuchHeaps(k))) {
+            return NONE;
         }
         Partings all = allRows(k);
         if (!all.findLeast(state, version)) {
@@ -283,11 +262,8 @@ public final class NumberHeaps {
     }
 
     public int flat(int k) {
-        if (noText()) {
-            return refuse(NONE_SUCH);
-        }
-        if (noSuchHeaps(k)) {
-            return refuse(BAD_NUMBER);
+        if (refused(noText(), noSuchHeaps(k))) {
+            return NONE;
         }
         Partings all = allRows(k);
         if (!all.findLeast(state, version)) {
@@ -297,32 +273,23 @@ public final class NumberHeaps {
     }
 
     public int rows(int k) {
-        if (noText()) {
-            return refuse(NONE_SUCH);
-        }
-        if (noSuchHeaps(k)) {
-            return refuse(BAD_NUMBER);
+        if (refused(noText(), noSuchHeaps(k))) {
+            return NONE;
         }
         return answer(allRows(k).countAllowed(state));
     }
 
     public int climb(int k, int what) {
-        if (noText() || notZeroOrOne(what)) {
-            return refuse(NONE_SUCH);
-        }
-        if (noSuchHeaps(k)) {
-            return refuse(BAD_NUMBER);
+        if (refused(noText() || notZeroOrOne(what), noSuchHeaps(k))) {
+            return NONE;
         }
         filling.improve(state, k);
         return answer(what == 0 ? filling.spread() : filling.changes);
     }
 
     public int climbOf(int k, int i) {
-        if (noNumber(i)) {
-            return refuse(NONE_SUCH);
-        }
-        if (noSuchHeaps(k)) {
-            return refuse(BAD_NUMBER);
+        if (refused(noNumber(i), noSuchHeaps(k))) {
+            return NONE;
         }
         filling.improve(state, k);
         return answer(filling.heapOf[i]);
@@ -331,22 +298,16 @@ public final class NumberHeaps {
     // ---- sums
 
     public int ways(int s) {
-        if (noText()) {
-            return refuse(NONE_SUCH);
-        }
-        if (noSuchSum(s)) {
-            return refuse(BAD_NUMBER);
+        if (refused(noText(), noSuchSum(s))) {
+            return NONE;
         }
         setSums.prepare(state, version);
         return answer(setSums.setsWith(s));
     }
 
     public int chosen(int s) {
-        if (noText()) {
-            return refuse(NONE_SUCH);
-        }
-        if (noSuchSum(s)) {
-            return refuse(BAD_NUMBER);
+        if (refused(noText(), noSuchSum(s))) {
+            return NONE;
         }
         setSums.prepare(state, version);
         return answer(setSums.leastSetWith(s));
@@ -361,11 +322,8 @@ public final class NumberHeaps {
     }
 
     public int nearest(int s) {
-        if (noText()) {
-            return refuse(NONE_SUCH);
-        }
-        if (noSuchSum(s)) {
-            return refuse(BAD_NUMBER);
+        if (refused(noText(), noSuchSum(s))) {
+            return NONE;
         }
         setSums.prepare(state, version);
         return answer(setSums.sumNextTo(s));
@@ -374,11 +332,8 @@ public final class NumberHeaps {
     // ---- acts
 
     public int add(int v) {
-        if (noText()) {
-            return refuse(NONE_SUCH);
-        }
-        if (noSuchValue(v)) {
-            return refuse(BAD_NUMBER);
+        if (refused(noText(), noSuchValue(v))) {
+            return NONE;
         }
         if (state.count >= MOST_NUMBERS) {
             return refuse(NO_ROOM);
@@ -404,11 +359,8 @@ public final class NumberHeaps {
     }
 
     public int become(int i, int v) {
-        if (noNumber(i)) {
-            return refuse(NONE_SUCH);
-        }
-        if (noSuchValue(v)) {
-            return refuse(BAD_NUMBER);
+        if (refused(noNumber(i), noSuchValue(v))) {
+            return NONE;
         }
         int was = state.values[i];
         history.keepAct(state);
@@ -418,11 +370,8 @@ public final class NumberHeaps {
     }
 
     public int keepIn(int i, int h) {
-        if (noNumber(i)) {
-            return refuse(NONE_SUCH);
-        }
-        if (h != FREE && (h < 0 || h >= MOST_HEAPS)) {
-            return refuse(BAD_NUMBER);
+        if (refused(noNumber(i), h != FREE && (h < 0 || h >= MOST_HEAPS))) {
+            return NONE;
         }
         int was = state.keeper[i];
         history.keepAct(state);
@@ -463,11 +412,8 @@ public final class NumberHeaps {
     }
 
     public int heaps(int k) {
-        if (noText()) {
-            return refuse(NONE_SUCH);
-        }
-        if (noSuchHeaps(k)) {
-            return refuse(BAD_NUMBER);
+        if (refused(noText(), noSuchHeaps(k))) {
+            return NONE;
         }
         int was = state.heapCount;
         history.keepAct(state);
@@ -553,6 +499,16 @@ public final class NumberHeaps {
         return NONE;
     }
 
+    /** What most calls ask first; is both so, what is told first counts. */
+    private boolean refused(boolean noneSuch, boolean badNumber) {
+        if (noneSuch) {
+            refuse(NONE_SUCH);
+        } else if (badNumber) {
+            refuse(BAD_NUMBER);
+        }
+        return noneSuch || badNumber;
+    }
+
     private int answer(int value) {
         troubleNumber = NOT_REFUSED;
         faultPlace = NONE;
@@ -633,6 +589,22 @@ public final class NumberHeaps {
     /** The NUMBER of the least place in a set, as its bit; behind all others if the set is empty. */
     private static int leastMember(int set) {
         return set == 0 ? 1 << MOST_NUMBERS : set & -set;
+    }
+
+    private static int greatestAmong(int[] heapSums, int k) {
+        int most = heapSums[0];
+        for (int h = 1; h < k; h++) {
+            most = Math.max(most, heapSums[h]);
+        }
+        return most;
+    }
+
+    private static int leastAmong(int[] heapSums, int k) {
+        int least = heapSums[0];
+        for (int h = 1; h < k; h++) {
+            least = Math.min(least, heapSums[h]);
+        }
+        return least;
     }
 
     /** NUMBERS, HEAPS, what is kept, apart; no NUMBERS: no TEXT. */
@@ -1072,15 +1044,11 @@ public final class NumberHeaps {
         }
 
         int greatest() {
-            int most = heapSums[0];
-            for (int h = 1; h < k; h++) {
-                most = Math.max(most, heapSums[h]);
-            }
-            return most;
+            return greatestAmong(heapSums, k);
         }
 
         int spread() {
-            return greatest() - heapSums[leastHeap()];
+            return greatestAmong(heapSums, k) - leastAmong(heapSums, k);
         }
 
         void improve(State state, int heapCount) {
@@ -1543,12 +1511,8 @@ public final class NumberHeaps {
 
         /** Whether a ROW that begins so may have as little SPREAD as the best, or a lesser greatest HEAP. */
         private boolean hopeful(int rest) {
-            int most = heapSums[0];
-            int least = heapSums[0];
-            for (int h = 1; h < k; h++) {
-                most = Math.max(most, heapSums[h]);
-                least = Math.min(least, heapSums[h]);
-            }
+            int most = greatestAmong(heapSums, k);
+            int least = leastAmong(heapSums, k);
             int leastAtLast = Math.min(least + rest, (total - most) / (k - 1));
             int mostAtLast = Math.max(most, (total - least - rest + k - 2) / (k - 1));
             return mostAtLast - leastAtLast <= spread || mostAtLast < flattest;
@@ -1559,12 +1523,8 @@ public final class NumberHeaps {
                 allowed += weight;
                 return;
             }
-            int most = heapSums[0];
-            int least = heapSums[0];
-            for (int h = 1; h < k; h++) {
-                most = Math.max(most, heapSums[h]);
-                least = Math.min(least, heapSums[h]);
-            }
+            int most = greatestAmong(heapSums, k);
+            int least = leastAmong(heapSums, k);
             flattest = Math.min(flattest, most);
             if (most - least < spread) {
                 spread = most - least;
@@ -1630,17 +1590,13 @@ public final class NumberHeaps {
 
         /** The first set whose sum is no less than s; how many sets there are, if there is none. */
         private int firstFrom(int s) {
-            int low = 0;
-            int high = sets;
-            while (low < high) {
-                int middle = (low + high) / 2;
-                if (sumAt(middle) < s) {
-                    low = middle + 1;
-                } else {
-                    high = middle;
+            int at = 0;
+            for (int leap = SETS; leap > 0; leap /= 2) {
+                if (at + leap <= sets && sumAt(at + leap - 1) < s) {
+                    at += leap;
                 }
             }
-            return low;
+            return at;
         }
 
         int setsWith(int s) {

@@ -7,6 +7,7 @@ public final class FilledTest {
         greedyRefused();
         difference();
         differenceRefused();
+        eachFirst();
         multi();
         multiRefused();
         CHECK.end();
@@ -79,6 +80,21 @@ public final class FilledTest {
         NumberHeaps one = Check.of("number 9");
         CHECK.fine("11 one", one.difference(), one, 9);
         CHECK.fine("12 one", one.differenceOf(0), one, 0);
+    }
+
+    /** Each call reckons for itself, whatever was asked ahead. */
+    private static void eachFirst() {
+        NumberHeaps x = Check.of("number 4,4,4");
+        CHECK.fine("12 first of all", x.differenceOf(1), x, 1);
+        NumberHeaps y = Check.of("number 5,1,1,4");
+        CHECK.fine("13 first of all", y.step(1, 1), y, 1);
+        NumberHeaps z = Check.of("number 2,2,2,2");
+        CHECK.fine("15 first of all", z.multiOf(3, 1), z, 2);
+        z.drop(0);
+        z.drop(0);
+        z.drop(0);
+        CHECK.fine("15 one is left", z.multiOf(4, 0), z, 0);
+        CHECK.fine("14 one is left", z.multi(4), z, 2);
     }
 
     private static void differenceRefused() {

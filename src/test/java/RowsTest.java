@@ -171,6 +171,15 @@ public final class RowsTest {
         CHECK.fine("24 one", one.climb(3, 0), one, 9);
         CHECK.fine("24 one, changes", one.climb(3, 1), one, 0);
         CHECK.fine("25 one", one.climbOf(3, 0), one, 0);
+        // GREEDY: 10, 6, 5 against 9, 7, 1; 7 and 10 are exchanged, then 1 moves
+        NumberHeaps z = Check.of("number 7,9,6,10,5,1");
+        CHECK.fine("25 ahead of all else", z.climbOf(2, 0), z, 0);
+        CHECK.fine("24 SPREAD", z.climb(2, 0), z, 0);
+        CHECK.fine("24 an exchange and a move", z.climb(2, 1), z, 2);
+        int[] moved = {0, 1, 0, 1, 0, 0};
+        for (int i = 0; i < 6; i++) {
+            CHECK.fine("25 " + i, z.climbOf(2, i), z, moved[i]);
+        }
         // GREEDY: 6, 5 and 3 against 6 and 5; a 6 and a 5 are exchanged
         NumberHeaps y = Check.of("number 3,6,5,6,5");
         CHECK.fine("9", y.greedy(2, 0), y, 3);

@@ -7,6 +7,8 @@ public final class SearchTest {
         neverPerfect();
         atOnce();
         behindChanges();
+        sidesTellTheDifference();
+        eachFirst();
         refused();
         CHECK.end();
     }
@@ -68,6 +70,42 @@ public final class SearchTest {
         told(x, 0, 5, 3, 2, 1);
         Check.text(x, "number 9");
         told(x, 9, 1, 1, 1, 0);
+    }
+
+    /** The SIDES' sums lie as far from one another as the last FIND and DIFFERENCE say. */
+    private static void sidesTellTheDifference() {
+        java.util.Random random = new java.util.Random(11);
+        for (int turn = 0; turn < 3000; turn++) {
+            int n = 5 + random.nextInt(6);
+            int bound = turn % 2 == 0 ? 9999 : 30;
+            StringBuilder text = new StringBuilder("number ");
+            int[] values = new int[n];
+            for (int i = 0; i < n; i++) {
+                values[i] = 1 + random.nextInt(bound);
+                text.append(i == 0 ? "" : ",").append(values[i]);
+            }
+            NumberHeaps x = Check.of(text.toString());
+            int found = 0;
+            int differenced = 0;
+            for (int i = 0; i < n; i++) {
+                found += x.searchOf(i) == 0 ? values[i] : -values[i];
+                differenced += x.differenceOf(i) == 0 ? values[i] : -values[i];
+            }
+            CHECK.due("18 '" + text + "'", Math.abs(found), x.search(0));
+            CHECK.due("12 '" + text + "'", Math.abs(differenced), x.difference());
+            CHECK.due("16 the least of all '" + text + "'", x.search(0), x.least(2, 0));
+            CHECK.due("17 the last FIND", x.find(x.search(3) - 1, 0), x.search(0));
+            CHECK.due("17 the first FIND is DIFFERENCE", x.find(0, 0), x.difference());
+        }
+    }
+
+    /** Each call does its own search, whatever was asked ahead. */
+    private static void eachFirst() {
+        NumberHeaps x = Check.of("number 8,7,6,5,4");
+        CHECK.fine("17 first of all", x.find(1, 1), x, 5);
+        NumberHeaps y = Check.of("number 8,7,6,5,4");
+        CHECK.fine("18 first of all", y.searchOf(1), y, 0);
+        CHECK.fine("18 first of all", y.searchOf(2), y, 1);
     }
 
     private static void refused() {

@@ -7,6 +7,7 @@ public final class SumsTest {
         fewestThenLeast();
         greatest();
         behindChanges();
+        eachFirst();
         refused();
         CHECK.end();
     }
@@ -70,6 +71,16 @@ public final class SumsTest {
         CHECK.fine("28 behind undo", x.sums(), x, 4);
         x.sort();
         CHECK.fine("27 behind sort", x.chosen(5), x, 1);
+    }
+
+    /** Each call reckons for itself, whatever was asked ahead. */
+    private static void eachFirst() {
+        NumberHeaps w = Check.of("number 3,5,8");
+        CHECK.fine("26 first of all", w.ways(8), w, 2);
+        NumberHeaps c = Check.of("number 3,5,8");
+        CHECK.fine("27 first of all", c.chosen(13), c, 6);
+        NumberHeaps n = Check.of("number 3,5,8");
+        CHECK.fine("29 first of all", n.nearest(14), n, 13);
     }
 
     private static void refused() {

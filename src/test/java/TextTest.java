@@ -135,6 +135,20 @@ public final class TextTest {
         faulty("number 1,2;apart 0 1 0", 1, 21);
         faulty("number 1;abcdefg", 1, 9);
         faulty("heaps 12345", 1, 6);
+        faulty("lumber 1", 1, 0);
+        faulty("leaps 2;number 1", 1, 0);
+        faulty("number 1;beep 0 in 1", 1, 9);
+        faulty("number 1;keep 0 on 1", 1, 16);
+        faulty("number 1,1;spart 0 1", 1, 11);
+        faulty("number 1;heapsz 2", 1, 9);
+        faulty("number 1;keepaz", 1, 9);
+        faulty("number 1;keep`", 1, 13);
+        faulty("number 1{", 1, 8);
+        faulty("number 1/", 1, 8);
+        faulty("number 1:", 1, 8);
+        cutShort("heaps 2;numbers", 14, 1, 14);
+        cutShort("number 1;heaps 22222", 16, 0, NumberHeaps.NONE);
+        cutShort("number 1 2", 9, 0, NumberHeaps.NONE);
     }
 
     private static void bounds() {
@@ -205,6 +219,12 @@ public final class TextTest {
         CHECK.due("3 no ACTS", x.about(5), 0);
         CHECK.refused("3 nothing to undo", x.undo(), x, 5);
         CHECK.due("3 no IMAGE", x.back(1), false);
+        x.image(0);
+        Check.text(x, "number 9");
+        CHECK.due("3 no IMAGE", x.back(0), false);
+        Check.text(x, "heaps 3;number 9");
+        CHECK.due("3 heaps again in another TEXT", Check.text(x, "heaps 4;number 9"), 1);
+        Check.text(x, "number 9");
         Check.text(x, "number 9,8;keep 0 in 1;apart 0 1");
         Check.text(x, "number 9,8");
         CHECK.due("3 none kept", x.about(3), 0);
@@ -235,6 +255,15 @@ public final class TextTest {
         Check.text(x, "numb");
         x.text(9);
         CHECK.due("5 refused by 2", x.where(), NumberHeaps.NONE);
+    }
+
+    /** What stands behind the first n bytes counts for nothing. */
+    private static void cutShort(String text, int n, int fault, int where) {
+        NumberHeaps x = new NumberHeaps();
+        Check.feed(x, Check.bytesOf(text));
+        CHECK.due("3 the first " + n + " of '" + text + "'", x.text(n), fault == 0 ? 1 : NumberHeaps.NONE);
+        CHECK.due("4 fault of it", x.fault(), fault);
+        CHECK.due("5 where of it", x.where(), where);
     }
 
     private static void sound(String text, int numbers) {
