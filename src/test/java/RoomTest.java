@@ -21,7 +21,7 @@ public final class RoomTest {
             callAll(x);
         }
         long calls = made() - before;
-        CHECK.due("bytes made by 5 times 36 calls: " + calls, calls < 2000, true);
+        CHECK.due("bytes made by all calls, five times: " + calls, calls < 2000, true);
         CHECK.end();
     }
 
