@@ -1,8 +1,13 @@
+import java.util.HashMap;
+import java.util.Map;
+import java.util.TreeSet;
+
 /** Counts the answers of one test that are not as due, and feeds texts. */
 final class Check {
     private final String name;
     private int asked = 0;
     private int wrong = 0;
+    private final Map<String, TreeSet<String>> met = new HashMap<>();
 
     Check(String name) {
         this.name = name;
@@ -40,12 +45,57 @@ final class Check {
         due(call + " octet ahead", octetOr(x, -1), -7);
     }
 
-    private static int octetOr(NumberHeaps x, int j) {
+    /** Two texts of many lines; of unlike ones the first line that differs is told. */
+    void same(String call, String got, String want) {
+        String[] gotLines = got.split("\n");
+        String[] wantLines = want.split("\n");
+        int at = 0;
+        while (at < Math.min(gotLines.length, wantLines.length) - 1 && gotLines[at].equals(wantLines[at])) {
+            at++;
+        }
+        asked++;
+        if (!got.equals(want)) {
+            wrong++;
+            System.out.println(name + ": " + call + ": '" + gotLines[at] + "', due is '" + wantLines[at] + "'");
+        }
+    }
+
+    /** Counts unlike ones of a kind. */
+    void see(String kind, String one) {
+        met.computeIfAbsent(kind, k -> new TreeSet<>()).add(one);
+    }
+
+    int seen(String kind) {
+        return met.getOrDefault(kind, new TreeSet<>()).size();
+    }
+
+    /** -7 if there is none such. */
+    static int octetOr(NumberHeaps x, int j) {
         try {
             return x.octet(j);
         } catch (java.util.NoSuchElementException none) {
             return -7;
         }
+    }
+
+    /** A TEXT that a new object takes; answers the object. */
+    NumberHeaps sound(String text, int numbers) {
+        NumberHeaps x = new NumberHeaps();
+        fine("3 '" + text + "'", text(x, text), x, numbers);
+        due("4 fault of '" + text + "'", x.fault(), 0);
+        due("5 where of '" + text + "'", x.where(), NumberHeaps.NONE);
+        due("3 tape behind '" + text + "'", x.bytes(), 0);
+        return x;
+    }
+
+    /** A TEXT that a new object refuses by 4. */
+    void faulty(String text, int fault, int where) {
+        NumberHeaps x = new NumberHeaps();
+        refused("3 '" + text + "'", text(x, text), x, 4);
+        due("4 fault of '" + text + "'", x.fault(), fault);
+        due("5 where of '" + text + "'", x.where(), where);
+        due("3 tape behind '" + text + "'", x.bytes(), 0);
+        refused("3 no TEXT", x.about(0), x, 1);
     }
 
     void end() {

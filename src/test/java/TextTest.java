@@ -67,17 +67,17 @@ public final class TextTest {
     }
 
     private static void readTexts() {
-        sound("number 1", 1);
-        sound("number 9999", 1);
-        sound("number 0001,0009", 2);
-        sound("number1,2;number3", 3);
-        sound("  number  1 , 2  ;  heaps  4  ", 2);
-        sound("heaps2;number 5", 1);
-        sound("heaps 2;number 5", 1);
-        sound("number 1,2,3,4,5,6,7,8,9,10", 10);
-        sound("number 1,2,3,4,5;number 6,7,8,9,10", 10);
-        sound("number 5,5;keep 0 in 3;keep1in0;apart 1 0", 2);
-        sound("number 1,2,3,4;apart 0 1;apart 0 2;apart 0 3;apart 1 2;apart 1 3;apart 2 3", 4);
+        CHECK.sound("number 1", 1);
+        CHECK.sound("number 9999", 1);
+        CHECK.sound("number 0001,0009", 2);
+        CHECK.sound("number1,2;number3", 3);
+        CHECK.sound("  number  1 , 2  ;  heaps  4  ", 2);
+        CHECK.sound("heaps2;number 5", 1);
+        CHECK.sound("heaps 2;number 5", 1);
+        CHECK.sound("number 1,2,3,4,5,6,7,8,9,10", 10);
+        CHECK.sound("number 1,2,3,4,5;number 6,7,8,9,10", 10);
+        CHECK.sound("number 5,5;keep 0 in 3;keep1in0;apart 1 0", 2);
+        CHECK.sound("number 1,2,3,4;apart 0 1;apart 0 2;apart 0 3;apart 1 2;apart 1 3;apart 2 3", 4);
         NumberHeaps x = Check.of("number 3,1,4;heaps 4;keep 2 in 3;apart 0 2");
         CHECK.due("3 third", x.number(2, 0), 4);
         CHECK.due("3 heaps", x.about(1), 4);
@@ -95,109 +95,109 @@ public final class TextTest {
     }
 
     private static void forms() {
-        faulty("", 1, 0);
-        faulty("   ", 1, 3);
-        faulty("number", 1, 6);
-        faulty("number   ", 1, 9);
-        faulty("number 1,", 1, 9);
-        faulty("number 1;", 1, 9);
-        faulty("number 1; ;", 1, 10);
-        faulty(";number 1", 1, 0);
-        faulty("number ,1", 1, 7);
-        faulty("number 1 2", 1, 9);
-        faulty("number 1,,2", 1, 9);
-        faulty("number 10000", 1, 7);
-        faulty("number 1,123456", 1, 9);
-        faulty("numbers 1", 1, 0);
-        faulty("numbe 1", 1, 0);
-        faulty("Number 1", 1, 0);
-        faulty("number 1.", 1, 8);
-        faulty("number 1\t", 1, 8);
-        faulty("number -1", 1, 7);
-        faulty("number 1" + (char) 233, 1, 8);
-        faulty("number 1" + (char) 0, 1, 8);
-        faulty("12", 1, 0);
-        faulty("in", 1, 0);
-        faulty("number number", 1, 7);
-        faulty("number 1 number 2", 1, 9);
-        faulty("number 1;heaps", 1, 14);
-        faulty("number 1;heaps ,", 1, 15);
-        faulty("number 1;heaps 2,3", 1, 16);
-        faulty("number 1;keep in 1", 1, 14);
-        faulty("number 1;keep 0 1", 1, 16);
-        faulty("number 1;keep 0 inn 1", 1, 16);
-        faulty("number 1;keep 0 in", 1, 18);
-        faulty("number 1;keep 0 in in", 1, 19);
-        faulty("number 1;keep 0 in 1,", 1, 20);
-        faulty("number 1,2;apart 0,1", 1, 18);
-        faulty("number 1,2;apart 0", 1, 18);
-        faulty("number 1,2;apart;", 1, 16);
-        faulty("number 1,2;apart 0 1 0", 1, 21);
-        faulty("number 1;abcdefg", 1, 9);
-        faulty("heaps 12345", 1, 6);
-        faulty("lumber 1", 1, 0);
-        faulty("leaps 2;number 1", 1, 0);
-        faulty("number 1;beep 0 in 1", 1, 9);
-        faulty("number 1;keep 0 on 1", 1, 16);
-        faulty("number 1,1;spart 0 1", 1, 11);
-        faulty("number 1;heapsz 2", 1, 9);
-        faulty("number 1;keepaz", 1, 9);
-        faulty("number 1;keep`", 1, 13);
-        faulty("number 1{", 1, 8);
-        faulty("number 1/", 1, 8);
-        faulty("number 1:", 1, 8);
+        CHECK.faulty("", 1, 0);
+        CHECK.faulty("   ", 1, 3);
+        CHECK.faulty("number", 1, 6);
+        CHECK.faulty("number   ", 1, 9);
+        CHECK.faulty("number 1,", 1, 9);
+        CHECK.faulty("number 1;", 1, 9);
+        CHECK.faulty("number 1; ;", 1, 10);
+        CHECK.faulty(";number 1", 1, 0);
+        CHECK.faulty("number ,1", 1, 7);
+        CHECK.faulty("number 1 2", 1, 9);
+        CHECK.faulty("number 1,,2", 1, 9);
+        CHECK.faulty("number 10000", 1, 7);
+        CHECK.faulty("number 1,123456", 1, 9);
+        CHECK.faulty("numbers 1", 1, 0);
+        CHECK.faulty("numbe 1", 1, 0);
+        CHECK.faulty("Number 1", 1, 0);
+        CHECK.faulty("number 1.", 1, 8);
+        CHECK.faulty("number 1\t", 1, 8);
+        CHECK.faulty("number -1", 1, 7);
+        CHECK.faulty("number 1" + (char) 233, 1, 8);
+        CHECK.faulty("number 1" + (char) 0, 1, 8);
+        CHECK.faulty("12", 1, 0);
+        CHECK.faulty("in", 1, 0);
+        CHECK.faulty("number number", 1, 7);
+        CHECK.faulty("number 1 number 2", 1, 9);
+        CHECK.faulty("number 1;heaps", 1, 14);
+        CHECK.faulty("number 1;heaps ,", 1, 15);
+        CHECK.faulty("number 1;heaps 2,3", 1, 16);
+        CHECK.faulty("number 1;keep in 1", 1, 14);
+        CHECK.faulty("number 1;keep 0 1", 1, 16);
+        CHECK.faulty("number 1;keep 0 inn 1", 1, 16);
+        CHECK.faulty("number 1;keep 0 in", 1, 18);
+        CHECK.faulty("number 1;keep 0 in in", 1, 19);
+        CHECK.faulty("number 1;keep 0 in 1,", 1, 20);
+        CHECK.faulty("number 1,2;apart 0,1", 1, 18);
+        CHECK.faulty("number 1,2;apart 0", 1, 18);
+        CHECK.faulty("number 1,2;apart;", 1, 16);
+        CHECK.faulty("number 1,2;apart 0 1 0", 1, 21);
+        CHECK.faulty("number 1;abcdefg", 1, 9);
+        CHECK.faulty("heaps 12345", 1, 6);
+        CHECK.faulty("lumber 1", 1, 0);
+        CHECK.faulty("leaps 2;number 1", 1, 0);
+        CHECK.faulty("number 1;beep 0 in 1", 1, 9);
+        CHECK.faulty("number 1;keep 0 on 1", 1, 16);
+        CHECK.faulty("number 1,1;spart 0 1", 1, 11);
+        CHECK.faulty("number 1;heapsz 2", 1, 9);
+        CHECK.faulty("number 1;keepaz", 1, 9);
+        CHECK.faulty("number 1;keep`", 1, 13);
+        CHECK.faulty("number 1{", 1, 8);
+        CHECK.faulty("number 1/", 1, 8);
+        CHECK.faulty("number 1:", 1, 8);
         cutShort("heaps 2;numbers", 14, 1, 14);
         cutShort("number 1;heaps 22222", 16, 0, NumberHeaps.NONE);
         cutShort("number 1 2", 9, 0, NumberHeaps.NONE);
     }
 
     private static void bounds() {
-        faulty("number 0", 2, 7);
-        faulty("number 0000", 2, 7);
-        faulty("number 5,0", 2, 9);
-        faulty("number 1;heaps 1", 2, 15);
-        faulty("number 1;heaps 5", 2, 15);
-        faulty("number 1;heaps 0002;heaps 9", 3, 20);
-        faulty("number 1;keep 1 in 0", 2, 14);
-        faulty("number 1;keep 0 in 4", 2, 19);
-        faulty("keep 0 in 1;number 1", 2, 5);
-        faulty("number 1,2;apart 2 0", 2, 17);
-        faulty("number 1,2;apart 0 2", 2, 19);
-        faulty("number 1,2;apart 0 2;number 3", 2, 19);
-        faulty("apart 0 1", 2, 6);
-        faulty("number 1,2,3,4,5,6,7,8,9,10,0", 2, 28);
+        CHECK.faulty("number 0", 2, 7);
+        CHECK.faulty("number 0000", 2, 7);
+        CHECK.faulty("number 5,0", 2, 9);
+        CHECK.faulty("number 1;heaps 1", 2, 15);
+        CHECK.faulty("number 1;heaps 5", 2, 15);
+        CHECK.faulty("number 1;heaps 0002;heaps 9", 3, 20);
+        CHECK.faulty("number 1;keep 1 in 0", 2, 14);
+        CHECK.faulty("number 1;keep 0 in 4", 2, 19);
+        CHECK.faulty("keep 0 in 1;number 1", 2, 5);
+        CHECK.faulty("number 1,2;apart 2 0", 2, 17);
+        CHECK.faulty("number 1,2;apart 0 2", 2, 19);
+        CHECK.faulty("number 1,2;apart 0 2;number 3", 2, 19);
+        CHECK.faulty("apart 0 1", 2, 6);
+        CHECK.faulty("number 1,2,3,4,5,6,7,8,9,10,0", 2, 28);
     }
 
     private static void again() {
-        faulty("heaps 2;heaps", 3, 8);
-        faulty("heaps 2;number 1;heaps 3", 3, 17);
-        faulty("number 1;keep 0 in 1;keep 0 in 1", 3, 26);
-        faulty("number 1;keep 0 in 1;keep 00,", 3, 26);
-        faulty("number 1,1;apart 0 0", 3, 19);
-        faulty("number 1,1;apart 0 1;apart 0 1", 3, 29);
-        faulty("number 1,1;apart 0 1;apart 1 0", 3, 29);
-        sound("number 1,1;keep 0 in 1;keep 1 in 1", 2);
+        CHECK.faulty("heaps 2;heaps", 3, 8);
+        CHECK.faulty("heaps 2;number 1;heaps 3", 3, 17);
+        CHECK.faulty("number 1;keep 0 in 1;keep 0 in 1", 3, 26);
+        CHECK.faulty("number 1;keep 0 in 1;keep 00,", 3, 26);
+        CHECK.faulty("number 1,1;apart 0 0", 3, 19);
+        CHECK.faulty("number 1,1;apart 0 1;apart 0 1", 3, 29);
+        CHECK.faulty("number 1,1;apart 0 1;apart 1 0", 3, 29);
+        CHECK.sound("number 1,1;keep 0 in 1;keep 1 in 1", 2);
     }
 
     private static void tooMany() {
-        faulty("number 1,2,3,4,5,6,7,8,9,10,11", 4, 28);
-        faulty("number 1,2,3,4,5,6,7,8,9,10;number 11", 4, 35);
+        CHECK.faulty("number 1,2,3,4,5,6,7,8,9,10,11", 4, 28);
+        CHECK.faulty("number 1,2,3,4,5,6,7,8,9,10;number 11", 4, 35);
         String six = "number 1,2,3,4;apart 0 1;apart 0 2;apart 0 3;apart 1 2;apart 1 3;apart 2 3";
-        faulty(six + ";apart 0 1", 4, six.length() + 1);
-        faulty(six + ";apart", 4, six.length() + 1);
+        CHECK.faulty(six + ";apart 0 1", 4, six.length() + 1);
+        CHECK.faulty(six + ";apart", 4, six.length() + 1);
     }
 
     private static void noNumber() {
-        faulty("heaps 3", 5, 7);
-        faulty("heaps 3  ", 5, 9);
-        faulty("heaps 3;", 1, 8);
+        CHECK.faulty("heaps 3", 5, 7);
+        CHECK.faulty("heaps 3  ", 5, 9);
+        CHECK.faulty("heaps 3;", 1, 8);
     }
 
     private static void firstFromTheLeft() {
-        faulty("number 0;?", 2, 7);
-        faulty("?number 0", 1, 0);
-        faulty("number 1;heaps 9;heaps 2", 2, 15);
-        faulty("number 1;keep 0 in 9;abcdefgh", 2, 19);
+        CHECK.faulty("number 0;?", 2, 7);
+        CHECK.faulty("?number 0", 1, 0);
+        CHECK.faulty("number 1;heaps 9;heaps 2", 2, 15);
+        CHECK.faulty("number 1;keep 0 in 9;abcdefgh", 2, 19);
     }
 
     private static void whatATextLeaves() {
@@ -264,21 +264,5 @@ public final class TextTest {
         CHECK.due("3 the first " + n + " of '" + text + "'", x.text(n), fault == 0 ? 1 : NumberHeaps.NONE);
         CHECK.due("4 fault of it", x.fault(), fault);
         CHECK.due("5 where of it", x.where(), where);
-    }
-
-    private static void sound(String text, int numbers) {
-        NumberHeaps x = new NumberHeaps();
-        CHECK.fine("3 '" + text + "'", Check.text(x, text), x, numbers);
-        CHECK.due("4 fault of '" + text + "'", x.fault(), 0);
-        CHECK.due("5 where of '" + text + "'", x.where(), NumberHeaps.NONE);
-    }
-
-    private static void faulty(String text, int fault, int where) {
-        NumberHeaps x = new NumberHeaps();
-        CHECK.refused("3 '" + text + "'", Check.text(x, text), x, 4);
-        CHECK.due("4 fault of '" + text + "'", x.fault(), fault);
-        CHECK.due("5 where of '" + text + "'", x.where(), where);
-        CHECK.due("3 tape behind '" + text + "'", x.bytes(), 0);
-        CHECK.refused("3 no TEXT", x.about(0), x, 1);
     }
 }
