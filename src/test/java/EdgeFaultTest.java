@@ -25,7 +25,8 @@ public final class EdgeFaultTest {
 
     /** "Told is the first TOKEN, from the left, at which one is found", whatever its number is. */
     private static void firstFromTheLeft() {
-        String[] texts = {"number 0;?", "number 1;heaps 5;?", "number 1;heaps 2;heaps ?", TEN + ",11,?", SIX + ";apart ?"};
+        String[] texts = {"number 0;?", "number 1;heaps 5;?", "number 1;heaps 2;heaps ?", TEN + ",11,?",
+            SIX + ";apart ?"};
         int[] faults = {2, 2, 3, 4, 4};
         int[] wheres = {7, 15, 17, 28, SIX.length() + 1};
         for (int t = 0; t < texts.length; t++) {
@@ -76,7 +77,7 @@ public final class EdgeFaultTest {
 
     /** "a TOKEN with which no TEXT goes on (the end: how many bytes there are)": a sound TEXT cut behind each TOKEN. */
     private static void everyTokenThatMayEndATextTooEarly() {
-        String[] tokens = {"number", "1", ",", "2", ";", "heaps", "3", ";", "keep", "0", "in", "1", ";", "apart", "0", "1"};
+        String[] tokens = "number 1 , 2 ; heaps 3 ; keep 0 in 1 ; apart 0 1".split(" ");
         // of each TOKEN, by LINES: whether a TEXT may end behind it
         String sound = "0101" + "0" + "01" + "0" + "0001" + "0" + "001";
         StringBuilder text = new StringBuilder();

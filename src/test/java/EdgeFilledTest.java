@@ -34,6 +34,8 @@ public final class EdgeFilledTest {
     private static void aboutTheFewest() {
         about(CHECK.sound("number 7", 1), 1, 2, 7, 0, 0, 0, 7, 7);
         about(CHECK.sound("number 1", 1), 1, 2, 1, 0, 0, 0, 1, 1);
+        // one greatest, one least
+        about(CHECK.sound("number 5,9,1", 3), 3, 2, 15, 0, 0, 0, 9, 1);
     }
 
     /** As many of all as there may be. */
@@ -72,8 +74,8 @@ public final class EdgeFilledTest {
 
     /** The first and the last NUMBER, and those beside them; the first and the last what. */
     private static void numberAtTheEdges() {
-        NumberHeaps x = CHECK.sound(POWERS + ";keep 9 in 3;keep 0 in 0;apart 0 9;apart 9 8;apart 9 7;apart 9 6;apart 9 5"
-            + ";apart 9 4", 10);
+        NumberHeaps x = CHECK.sound(POWERS + ";keep 9 in 3;keep 0 in 0;apart 0 9;apart 9 8;apart 9 7;apart 9 6"
+            + ";apart 9 5;apart 9 4", 10);
         int[] first = {1, 9, 0, 512};
         int[] last = {512, 0, 3, 1 + 16 + 32 + 64 + 128 + 256};
         for (int what = 0; what < 4; what++) {
@@ -258,6 +260,7 @@ public final class EdgeFilledTest {
         parts("number 1,4,1,1", 3, 3, "2011");
         parts("number 4,2,4,2,2", 4, 2, "03122");
         parts("number 2,2,2,4,2", 2, 0, "00110");
+        parts("number 1,1,4,2,3", 2, 1, "11001");
     }
 
     private static void multiOfTen() {
@@ -279,7 +282,7 @@ public final class EdgeFilledTest {
     private static void keepAndApartAside() {
         String text = "number 8,7,6,5,4";
         NumberHeaps free = CHECK.sound(text, 5);
-        NumberHeaps barred = CHECK.sound(text + ";keep 0 in 3;keep 1 in 3;keep 2 in 0;apart 0 1;apart 1 2;apart 0 2", 5);
+        NumberHeaps barred = CHECK.sound(text + ";keep 0 in 3;keep 1 in 3;keep 2 in 0;apart 0 1;apart 1 2", 5);
         CHECK.due("23 none is ALLOWED", barred.rows(4), 0);
         for (int k = 2; k <= 4; k++) {
             CHECK.fine("9", barred.greedy(k, 0), barred, free.greedy(k, 0));

@@ -19,6 +19,7 @@ public final class EdgeRowsTest {
         noneIsAllowedIsNoRefusalOfRows();
         theFirstOfThese();
         flatIsNotOfTheRow();
+        anew();
         noChange();
         movesAheadOfExchanges();
         theLesserNumber();
@@ -43,6 +44,9 @@ public final class EdgeRowsTest {
         // the 2nd and 3rd: 4, 3; the 3rd and 4th: 3, 2; the 4th and 5th: 2, 1
         bounds("number 1,2,3,4,5", 8, 5, 5);
         bounds("number 1,6,6,6,6", 13, 12, 7);
+        bounds("number 9,8,3", 11, 9, 9);
+        bounds("number 9,9,8,4", 17, 12, 9);
+        bounds("number 5,8,9,9,9", 20, 17, 13);
     }
 
     /** The greatest NUMBER counts alone; the least and the greatest of all. */
@@ -162,9 +166,34 @@ public final class EdgeRowsTest {
         told(CHECK.sound("number 1,1,1;keep 2 in 1", 3), 3, 0, 2, 1, 9, "021");
     }
 
-    /** FLAT is the least of all ROWS, not that of THE ROW: 24+9, 16+13, 16+10 has SPREAD 7; 16+16, 13+10+9, 24 is 32. */
+    /** FLAT is the least of all ROWS, not that of THE ROW: 24+9, 16+13, 16+10 has SPREAD 7; 16+16, 13+10+9, 24: 32. */
     private static void flatIsNotOfTheRow() {
         told(CHECK.sound("number 24,16,16,13,10,9", 6), 3, 7, 12, 32, 729, "012120");
+    }
+
+    /** What rows there were ahead of an ACT, undo, BACK or a TEXT counts no more. */
+    private static void anew() {
+        NumberHeaps x = CHECK.sound("number 3,2,1", 3);
+        told(x, 2, 0, 2, 3, 8, "011");
+        x.image(0);
+        CHECK.fine("30", x.add(6), x, 4);
+        told(x, 2, 0, 2, 6, 16, "0001");
+        x.undo();
+        told(x, 2, 0, 2, 3, 8, "011");
+        x.become(2, 3);
+        told(x, 2, 2, 4, 5, 8, "001");
+        x.sort();
+        told(x, 2, 2, 4, 5, 8, "010");
+        x.back(0);
+        told(x, 2, 0, 2, 3, 8, "011");
+        x.apart(1, 2);
+        told(x, 2, 2, 2, 4, 4, "010");
+        x.keepIn(0, 1);
+        told(x, 2, 2, 1, 4, 2, "101");
+        x.drop(1);
+        told(x, 2, 2, 1, 3, 2, "10");
+        Check.text(x, "number 9");
+        told(x, 2, 9, 2, 9, 2, "0");
     }
 
     /** "as long as it becomes less": none does, though some leave it as it is. */
@@ -183,6 +212,7 @@ public final class EdgeRowsTest {
      */
     private static void movesAheadOfExchanges() {
         climbs("number 12,9,1,9,8,12,7,1,9", 2, 0, 2, "011110100");
+        climbs("number 1,12,9,9,8,12,7,1,9", 2, 0, 2, "101110100");
     }
 
     /** 6, 3, 3 against 5, 4: 4 and 6 are exchanged, not 5 and 6. */
@@ -198,6 +228,7 @@ public final class EdgeRowsTest {
     /** 5, 3, 2 against 4, 4: the 5 is exchanged with the first 4. */
     private static void theLesserOther() {
         climbs("number 5,2,4,3,4", 2, 0, 1, "10001");
+        climbs("number 2,5,4,3,4", 2, 0, 1, "01001");
     }
 
     private static void climbs(String text, int k, int spread, int changes, String heaps) {

@@ -51,7 +51,7 @@ public final class EdgeSearchTest {
         CHECK.due("17 the last FIND is the last row", x.find(1, 1), x.search(1));
     }
 
-    /** Without a PERFECT one all rows are visited: 2 2 2 2 2; 2 2 2 0; 2 0 0; 4 2 0; 4 2 2 2; 2 2 2; 2 0; 4 2; 6 2 2. */
+    /** Without a PERFECT one all are visited: 2 2 2 2 2; 2 2 2 0; 2 0 0; 4 2 0; 4 2 2 2; 2 2 2; 2 0; 4 2; 6 2 2. */
     private static void neverPerfect() {
         told("number 2,2,2,2,2", 2, 9, 5, 1, 0);
         NumberHeaps x = CHECK.sound("number 2,2,2,2,2", 5);

@@ -33,8 +33,7 @@ public final class EdgeTextTest {
     /** "blanks, 32, ... mean nothing else": none where TOKENS part by themselves, many anywhere, also at both ends. */
     private static void blanks() {
         NumberHeaps tight = CHECK.sound("number1,2;heaps3;keep0in1;apart0 1", 2);
-        NumberHeaps wide = CHECK.sound("   number   1   ,   2   ;   heaps   3   ;   keep   0   in   1   ;  apart  0  1   ",
-            2);
+        NumberHeaps wide = CHECK.sound("  number   1   ,   2   ;   heaps   3   ;   keep   0   in   1   ;  apart  0  1  ", 2);
         for (NumberHeaps x : new NumberHeaps[] {tight, wide}) {
             CHECK.due("3 first", x.number(0, 0), 1);
             CHECK.due("3 second", x.number(1, 0), 2);
@@ -86,8 +85,8 @@ public final class EdgeTextTest {
     private static void words() {
         CHECK.sound("number 1", 1);
         String[] wrong = {"n", "numbe", "numbers", "numbes", "mumber", "Number", "numbeR", "abcdefghijklmnopqrstuvwxyz",
-            "heap", "heapss", "heapz", "geaps", "Heaps", "kee", "keepp", "keeo", "jeep", "Keep", "apar", "apartt", "aparu",
-            "bpart", "Apart", "in", "a", "z"};
+            "heap", "heapss", "heapz", "geaps", "Heaps", "kee", "keepp", "keeo", "jeep", "Keep", "apar", "apartt",
+            "aparu", "bpart", "Apart", "in", "a", "z"};
         for (String word : wrong) {
             CHECK.faulty(word + " 1", 1, 0);
             CHECK.faulty("number 1,1;" + word + " 0 1", 1, 11);
@@ -102,7 +101,8 @@ public final class EdgeTextTest {
 
     /** "WHOLES of 1 to 4 digits": zeros ahead count for nothing. */
     private static void wholesOfOneToFourDigits() {
-        NumberHeaps x = CHECK.sound("number 1,12,123,1234,0001,0012,0123,007;heaps 0003;keep 0007 in 0002;apart 0000 0007", 8);
+        NumberHeaps x = CHECK.sound("number 1,12,123,1234,0001,0012,0123,007;heaps 0003;keep 0007 in 0002"
+            + ";apart 0000 0007", 8);
         int[] values = {1, 12, 123, 1234, 1, 12, 123, 7};
         for (int i = 0; i < 8; i++) {
             CHECK.due("3 number " + i, x.number(i, 0), values[i]);
