@@ -95,7 +95,7 @@ public final class EdgeTapeTest {
         return x;
     }
 
-    /** "Twenty bytes come behind THE TAPE, of each number the highest first": one that begins no TOKEN at each place. */
+    /** "Twenty bytes come behind THE TAPE, of each number the highest first": one that begins no TOKEN anywhere. */
     private static void highestFirst() {
         for (int place = 0; place < 40; place++) {
             int[] words = new int[10];

@@ -6,7 +6,7 @@ import java.util.TreeSet;
 import java.util.regex.Matcher;
 import java.util.regex.Pattern;
 
-/** The tests of edges quote the sentence that they are for: each quote stands in the document; no promise is left out. */
+/** The tests of edges quote the sentence that they are for: each quote stands in the document; no promise lacks one. */
 public final class QuotesTest {
     private static final Check CHECK = new Check("QuotesTest");
     private static final Pattern COMMENT = Pattern.compile("/\\*\\*(.*?)\\*/", Pattern.DOTALL);
