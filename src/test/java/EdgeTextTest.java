@@ -33,7 +33,7 @@ public final class EdgeTextTest {
     /** "blanks, 32, ... mean nothing else": none where TOKENS part by themselves, many anywhere, also at both ends. */
     private static void blanks() {
         NumberHeaps tight = CHECK.sound("number1,2;heaps3;keep0in1;apart0 1", 2);
-        NumberHeaps wide = CHECK.sound("  number   1   ,   2   ;   heaps   3   ;   keep   0   in  1  ;  apart  0  1  ", 2);
+        NumberHeaps wide = CHECK.sound(" number   1   ,   2   ;   heaps   3  ;  keep   0   in  1  ;  apart  0  1  ", 2);
         for (NumberHeaps x : new NumberHeaps[] {tight, wide}) {
             CHECK.due("3 first", x.number(0, 0), 1);
             CHECK.due("3 second", x.number(1, 0), 2);
