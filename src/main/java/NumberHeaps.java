@@ -1482,7 +1482,7 @@ public final class NumberHeaps {
                 boolean nameless = isNameless(h);
                 if (mayLie(now, i, h) && !(nameless && entered)) {
                     int like = nameless ? namelessHeaps() : 1;
-                    entered |= nameless;
+                    entered = entered || nameless;
                     row[i] = h;
                     heapSums[h] += value;
                     members[h] |= 1 << i;
