@@ -1136,18 +1136,14 @@ public final class NumberHeaps {
             System.arraycopy(other.seconds, 0, seconds, 0, MOST_NUMBERS);
         }
 
-        void differenceFirstTwo() {
-            mergeFirstTwo(values[0] - values[1], firsts[0] | seconds[1], seconds[0] | firsts[1]);
-        }
-
-        void addFirstTwo() {
-            mergeFirstTwo(values[0] + values[1], firsts[0] | firsts[1], seconds[0] | seconds[1]);
-        }
-
-        private void mergeFirstTwo(int value, int first, int second) {
+        /** The first two become one, by their sum or by their difference. */
+        void joinFirstTwo(boolean bySum) {
             if (count < 2) {
                 return;
             }
+            int value = bySum ? values[0] + values[1] : values[0] - values[1];
+            int first = firsts[0] | (bySum ? firsts[1] : seconds[1]);
+            int second = seconds[0] | (bySum ? seconds[1] : firsts[1]);
             count -= 2;
             System.arraycopy(values, 2, values, 0, count);
             System.arraycopy(firsts, 2, firsts, 0, count);
@@ -1207,7 +1203,7 @@ public final class NumberHeaps {
             for (int j = 0; j < state.count - 1; j++) {
                 greater[j] = row.values[0];
                 lesser[j] = row.values[1];
-                row.differenceFirstTwo();
+                row.joinFirstTwo(false);
             }
         }
     }
@@ -1270,11 +1266,7 @@ public final class NumberHeaps {
             }
             ItemRow row = rowAt[depth + 1];
             row.copyFrom(rowAt[depth]);
-            if (bySum) {
-                row.addFirstTwo();
-            } else {
-                row.differenceFirstTwo();
-            }
+            row.joinFirstTwo(bySum);
             visit(depth + 1);
         }
 

@@ -66,7 +66,8 @@ public final class FilledTest {
         CHECK.fine("13", x.step(0, 1), x, 4);
         CHECK.fine("13", x.step(1, 0), x, 4);
         CHECK.fine("13", x.step(1, 1), x, 0);
-        // 5 and 4: 1 (0 | 3); 1 (1) is as great, but its NUMBER's place is behind 0: 1 (0|3) less 1 (1): 0; 1 (2) less 0
+        // 5 and 4: 1 (0 | 3); 1 (1) is as great, but its NUMBER's place is behind 0: 1 (0|3) less 1 (1): 0;
+        // 1 (2) less 0
         NumberHeaps y = Check.of("number 5,1,1,4");
         CHECK.fine("11", y.difference(), y, 1);
         int[] steps = {5, 4, 1, 1, 1, 0};
